@@ -516,7 +516,7 @@ public final class OwedToWinds {
         }
 
         boolean isHere(int wind) {
-            return isWind(wind) && row[GONE + wind] == 0;
+            return wind >= 0 && wind < winds && row[GONE + wind] == 0;
         }
 
         /** How much it counts in a draw. */
@@ -1116,14 +1116,14 @@ public final class OwedToWinds {
 
         boolean comesOf(int wind) {
             Text text = rulingOn(Text.COMES);
-            return text == null || valueOf(text, Text.COMES, wind, NONE, world.row[World.FORCE + wind]) != 0;
+            return text == null || reckoned(text, Text.COMES, wind, NONE, world.row[World.FORCE + wind]) != 0;
         }
 
         int blowsOf(int wind) {
             Text text = rulingOn(Text.BLOWS);
             int force = text == null
                     ? world.row[World.OWED + wind] / 10
-                    : valueOf(text, Text.BLOWS, wind, NONE, world.row[World.FORCE + wind]);
+                    : reckoned(text, Text.BLOWS, wind, NONE, world.row[World.FORCE + wind]);
             return within(force, MOST_FORCE);
         }
 
@@ -1131,7 +1131,7 @@ public final class OwedToWinds {
             Text text = rulingOn(Text.DUES);
             int dues = text == null
                     ? world.row[World.DUE + wind]
-                    : valueOf(text, Text.DUES, wind, NONE, world.row[World.FORCE + wind]);
+                    : reckoned(text, Text.DUES, wind, NONE, world.row[World.FORCE + wind]);
             return within(dues, MOST_AT_ONCE);
         }
 
@@ -1139,7 +1139,7 @@ public final class OwedToWinds {
             Text text = rulingOn(Text.TAKES);
             int taken = text == null
                     ? force - world.roof[village]
-                    : valueOf(text, Text.TAKES, wind, village, force);
+                    : reckoned(text, Text.TAKES, wind, village, force);
             return within(taken, MOST_AT_ONCE);
         }
 
@@ -1147,7 +1147,7 @@ public final class OwedToWinds {
         int catchOf(int wind, int village, int force) {
             Text text = rulingOn(Text.CATCH);
             int without = wind == NONE ? 0 : 3;
-            return within(text == null ? without : valueOf(text, Text.CATCH, wind, village, force), MOST_AT_ONCE);
+            return within(text == null ? without : reckoned(text, Text.CATCH, wind, village, force), MOST_AT_ONCE);
         }
 
         private Text rulingOn(int law) {
@@ -1162,7 +1162,7 @@ public final class OwedToWinds {
             return Math.max(0, Math.min(most, value));
         }
 
-        private int valueOf(Text text, int law, int wind, int village, int force) {
+        private int reckoned(Text text, int law, int wind, int village, int force) {
             int top = 0;
             for (int i = text.from[law]; i < text.to[law]; i++) {
                 int code = text.code[i];

@@ -246,7 +246,21 @@ public final class PromisesTest {
         due("no place", x.fault(1), NONE);
         tell(x, "dues 1;comes 1<-");
         due("at the end", x.fault(1), 16);
+        cutOff(x, "comes 1<=2;", 8);
+        cutOff(x, "dues 12;", 6);
+        cutOff(x, "dues  ;", 5);
+        cutOff(x, "dues day;", 6);
+        cutOff(x, "daydues 1;", 3);
         due("laws of a text with a fault are not those of the next", tell(x, "comes 1=1;dues 2;"), 1);
+    }
+
+    /** What stood on the tape behind its end isn't read. */
+    private static void cutOff(OwedToWinds x, String text, int end) {
+        put(x, text);
+        x.end(end);
+        due("cut off " + text, x.text(), NONE);
+        due("fault of that", x.fault(0), 1);
+        due("place of that", x.fault(1), text.startsWith("dues day") ? 5 : end);
     }
 
     private static void tokens() {
@@ -1491,6 +1505,20 @@ public final class PromisesTest {
         x.sail(1);
         ruled(x, "blows 0-debt 0/30;");
         due("0 ahead, 30 less", x.sure(0, 0, 0), 30);
+        OwedToWinds y = played("wind 0 weight 1 due 0;");
+        y.sail(5);
+        y.sail(5);
+        due("0 alone", y.sure(0, 50, 0), 0);
+        ruled(y, "blows debt 0-994;");
+        due("999", y.sure(0, 999, 0), 0);
+        ruled(y, "blows debt 0-995;");
+        due("o", y.sure(0, 1000, 0), NONE);
+        ruled(y, "blows 4-debt 0*(debt 0+1)*(debt 0+1);");
+        due("o", y.sure(0, -1, 0), NONE);
+        y.by(NONE);
+        due("no such", y.sure(0, 50, 1), NONE);
+        due("no such", y.sure(0, 50, -1), NONE);
+        due("no such", y.sure(0, 50, LOW), NONE);
     }
 
     private static void p39() {
