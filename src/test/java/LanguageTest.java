@@ -61,7 +61,7 @@ public final class LanguageTest {
         // Nothing is made but with the object itself, so that a run's room doesn't depend on its calls.
         Matcher made = Pattern.compile("\n( *)(.*)\\bnew\\b").matcher(code);
         while (made.find()) {
-            boolean field = made.group(2).matches("(private )?(static )?(final )?[\\w\\[\\]]+ \\w+ = .*") && made.group(1).length() <= 8;
+            boolean field = made.group(2).matches("(private )?(static )?final [\\w\\[\\]]+ \\w+ = .*") && made.group(1).length() <= 8;
             boolean constructor = made.group(2).matches("(texts\\[i\\]|laws|days|foresight|riddles) = ");
             if (!field && !constructor) bad(12, "made in a method: " + made.group(2));
         }
