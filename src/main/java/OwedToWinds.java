@@ -1893,7 +1893,7 @@ public final class OwedToWinds {
             int pieces = 0;
             for (int i = 0; i <= wanted; i++) {
                 pieces = 0;
-                while (left >= kind[i] && fewest[left - kind[i]] == fewest[left] - 1) {
+                while (pieces < n && left >= kind[i] && fewest[left - kind[i]] == fewest[left] - 1) {
                     left -= kind[i];
                     pieces++;
                 }

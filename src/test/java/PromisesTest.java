@@ -1,92 +1,25 @@
-import java.nio.ByteBuffer;
-import java.nio.charset.StandardCharsets;
-
 /**
  * For each promise: ordinary calls, the edges that the document names, wrong calls.
  * What is due is reckoned by hand. The draws of a new object are 127, 14637, 24931, 7473, 21480, 6350,
  * 20612, 4216, 27985, ..
  */
-public final class PromisesTest {
-    private static final int NONE = OwedToWinds.NONE;
-    private static final int LOW = Integer.MIN_VALUE;
-    private static final int HIGH = Integer.MAX_VALUE;
-    private static int wrong = 0;
-    private static int asked = 0;
-    private static int promise = 0;
-
-    private static void due(String call, long got, long want) {
-        asked++;
-        if (got != want) {
-            wrong++;
-            System.out.println("promise " + promise + ": " + call + " answered " + got + ", due is " + want);
-        }
-    }
-
-    private static void yes(String call, boolean got) { due(call, got ? 1 : 0, 1); }
-
-    private static void no(String call, boolean got) { due(call, got ? 1 : 0, 0); }
-
-    // ---- objects to begin with ---------------------------------------------------------------------------
-    /** Puts a text on the tape; it may hold any bytes. */
-    private static void put(OwedToWinds x, String text) {
-        byte[] bytes = text.getBytes(StandardCharsets.ISO_8859_1);
-        x.end(0);
-        for (int i = 0; i < bytes.length; i += 20) {
-            ByteBuffer b = ByteBuffer.allocate(20);
-            b.put(bytes, i, Math.min(20, bytes.length - i));
-            x.feed(b.getInt(0), b.getInt(4), b.getInt(8), b.getInt(12), b.getInt(16));
-        }
-        x.end(bytes.length);
-    }
-
-    private static int tell(OwedToWinds x, String text) {
-        put(x, text);
-        return x.text();
-    }
-
-    /** Tells a text and lets it rule. */
-    private static OwedToWinds ruled(OwedToWinds x, String text) {
-        int number = tell(x, text);
-        due("text " + text, x.fault(0), 0);
-        yes("by " + text, x.by(number));
-        return x;
-    }
-
-    private static OwedToWinds played(String text) {
-        OwedToWinds x = new OwedToWinds();
-        int number = tell(x, text);
-        due("text " + text, x.fault(0), 0);
-        due("played " + text, x.played(number), NONE);
+public final class PromisesTest extends Checks {
+    /** Winds and villages of whom a law can say something. */
+    private static OwedToWinds lawful() {
+        OwedToWinds x = played("wind 3 weight 7 due 20;wind 1 weight 2 due 9;village 2 purse 8;pay 0 to 1 of 4;");
+        x.village(6, 77);
         return x;
     }
 
     /** The value of a sum, of both signs, as a wind's dues and those of the sum's opposite tell it. */
-    private static void sum(OwedToWinds x, String sum, int want) {
-        x.image();
-        ruled(x, "dues " + sum + ";");
-        due("dues " + sum, x.ofWind(0, 8), Math.max(0, Math.min(99, want)));
-        x.back();
-        ruled(x, "dues -(" + sum + ");");
-        due("dues -(" + sum + ")", x.ofWind(0, 8), Math.max(0, Math.min(99, -want)));
-        x.back();
+    private static void sum(String sum, int want) {
+        due("dues " + sum, ruled(lawful(), "dues " + sum + ";").ofWind(0, 8), Math.max(0, Math.min(99, want)));
+        due("dues -(" + sum + ")", ruled(lawful(), "dues -(" + sum + ");").ofWind(0, 8), Math.max(0, Math.min(99, -want)));
     }
 
-    private static void ask(OwedToWinds x, String either, int want) {
-        x.image();
-        ruled(x, "comes " + either + ";");
-        due("comes " + either, x.ofWind(0, 7), want);
-        x.back();
+    private static void ask(String either, int want) {
+        due("comes " + either, ruled(lawful(), "comes " + either + ";").ofWind(0, 7), want);
     }
-
-    private static void fault(String text, int what, int where) {
-        OwedToWinds x = new OwedToWinds();
-        due("text " + text, tell(x, text), what == 0 ? 0 : NONE);
-        due("fault(0) of " + text, x.fault(0), what);
-        due("fault(1) of " + text, x.fault(1), where);
-        due("texts by " + text, x.about(2), what == 0 ? 1 : 0);
-    }
-
-    private static String times(int n, String s) { return s.repeat(n); }
 
     // ---- the promises ------------------------------------------------------------------------------------
     private static void p1() {
@@ -632,89 +565,87 @@ public final class PromisesTest {
     }
 
     private static void theLaws() {
-        OwedToWinds x = played("wind 3 weight 7 due 20;wind 1 weight 2 due 9;village 2 purse 8;pay 0 to 1 of 4;");
-        x.village(6, 77);
-        sum(x, "7-2-3", 2);
-        sum(x, "7-(2-3)", 8);
-        sum(x, "2+3*4", 14);
-        sum(x, "(2+3)*4", 20);
-        sum(x, "40/4/2", 5);
-        sum(x, "40/(4/2)", 20);
-        sum(x, "7/2*2", 6);
-        sum(x, "-7/2", -3);
-        sum(x, "7/-2", -3);
-        sum(x, "-7/-2", 3);
-        sum(x, "7/0", 0);
-        sum(x, "0/0", 0);
-        sum(x, "2--3", 5);
-        sum(x, "-2*3", -6);
-        sum(x, "9999*9999/9999", 100);
-        sum(x, "9999*9999/(200*100)", 50);
-        sum(x, "(0-9999)*9999/9999+50", -50);
-        sum(x, "9999*100+99-9999*100-40", 59);
-        sum(x, "9999*100+100-9999*100-40", 60);
-        sum(x, "9999*100+101-9999*100-40", 60);
-        sum(x, "9999*100+9999-9999*100-40", 60);
-        sum(x, "-9999*100-99+9999*100+40", -59);
-        sum(x, "-9999*100-100+9999*100+40", -60);
-        sum(x, "-9999*100-101+9999*100+40", -60);
-        sum(x, "9999*9999*9999-9999*9999+3", 3);
-        sum(x, "-9999*9999-9999*9999+9999*9999+4", 4);
-        sum(x, "round 7 to 5", 5);
-        sum(x, "round 8 to 5", 10);
-        sum(x, "round 5 to 10", 10);
-        sum(x, "round 4 to 10", 0);
-        sum(x, "round -5 to 10", 0);
-        sum(x, "round -6 to 10", -10);
-        sum(x, "round -15 to -10", -10);
-        sum(x, "round 15 to -10", 20);
-        sum(x, "round 13 to 0", 13);
-        sum(x, "round 0 to 7", 0);
-        sum(x, "round -7 to 1", -7);
-        sum(x, "round 3 to 2*3", 12);
-        sum(x, "round (9999*100) to (9999*60) - 9999*100 - 30", 70);
-        sum(x, "round 9 to 4 + round 1 to 3", 8);
-        sum(x, "- round 9 to 4", -8);
-        sum(x, "quarter", 3);
-        sum(x, "weight", 7);
-        sum(x, "due", 20);
-        sum(x, "owed", 0);
-        sum(x, "force", 0);
-        sum(x, "day", 0);
-        sum(x, "debt 1", -4);
-        sum(x, "debt 2", 0);
-        sum(x, "debt -1", 0);
-        sum(x, "debt 9999", 0);
-        sum(x, "debt(3-2)*3", -12);
-        sum(x, "-debt debt 0", 0);
-        sum(x, "debt 1*debt 1", 16);
-        ask(x, "1<2", 1);
-        ask(x, "2<2", 0);
-        ask(x, "2<=2", 1);
-        ask(x, "3<=2", 0);
-        ask(x, "3>2", 1);
-        ask(x, "2>2", 0);
-        ask(x, "2>=2", 1);
-        ask(x, "1>=2", 0);
-        ask(x, "2=2", 1);
-        ask(x, "2=3", 0);
-        ask(x, "2#3", 1);
-        ask(x, "2#2", 0);
-        ask(x, "1+1=4-2", 1);
-        ask(x, "not 1<2", 0);
-        ask(x, "not not 1<2", 1);
-        ask(x, "not 1<2 or 1<2", 1);
-        ask(x, "not 2<1 and 2<1", 0);
-        ask(x, "1=1 or 1=1 and 1=2", 1);
-        ask(x, "1=2 and 1=1 or 1=1", 1);
-        ask(x, "1=2 and 1=1 or 1=2", 0);
-        ask(x, "1=1 and 1=1 and 1=2", 0);
-        ask(x, "1=2 or 1=2 or 1=1", 1);
-        ask(x, "quarter=3 and weight=7 and due=20 and owed=0 and force=0 and day=0", 1);
-        ask(x, "debt 1<0", 1);
-        ask(x, "not 1=2 and 1=1", 1);
-        ask(x, "1<2 and 1<=2 and 2>1 and 2>=1 and 1=1 and 1#2", 1);
-        ask(x, "1<2 or 1<=2 or 2>1 or 2>=1 or 1=1 or 1#2", 1);
+        sum("7-2-3", 2);
+        sum("7-(2-3)", 8);
+        sum("2+3*4", 14);
+        sum("(2+3)*4", 20);
+        sum("40/4/2", 5);
+        sum("40/(4/2)", 20);
+        sum("7/2*2", 6);
+        sum("-7/2", -3);
+        sum("7/-2", -3);
+        sum("-7/-2", 3);
+        sum("7/0", 0);
+        sum("0/0", 0);
+        sum("2--3", 5);
+        sum("-2*3", -6);
+        sum("9999*9999/9999", 100);
+        sum("9999*9999/(200*100)", 50);
+        sum("(0-9999)*9999/9999+50", -50);
+        sum("9999*100+99-9999*100-40", 59);
+        sum("9999*100+100-9999*100-40", 60);
+        sum("9999*100+101-9999*100-40", 60);
+        sum("9999*100+9999-9999*100-40", 60);
+        sum("-9999*100-99+9999*100+40", -59);
+        sum("-9999*100-100+9999*100+40", -60);
+        sum("-9999*100-101+9999*100+40", -60);
+        sum("9999*9999*9999-9999*9999+3", 3);
+        sum("-9999*9999-9999*9999+9999*9999+4", 4);
+        sum("round 7 to 5", 5);
+        sum("round 8 to 5", 10);
+        sum("round 5 to 10", 10);
+        sum("round 4 to 10", 0);
+        sum("round -5 to 10", 0);
+        sum("round -6 to 10", -10);
+        sum("round -15 to -10", -10);
+        sum("round 15 to -10", 20);
+        sum("round 13 to 0", 13);
+        sum("round 0 to 7", 0);
+        sum("round -7 to 1", -7);
+        sum("round 3 to 2*3", 12);
+        sum("round (9999*100) to (9999*60) - 9999*100 - 30", 70);
+        sum("round 9 to 4 + round 1 to 3", 8);
+        sum("- round 9 to 4", -8);
+        sum("quarter", 3);
+        sum("weight", 7);
+        sum("due", 20);
+        sum("owed", 0);
+        sum("force", 0);
+        sum("day", 0);
+        sum("debt 1", -4);
+        sum("debt 2", 0);
+        sum("debt -1", 0);
+        sum("debt 9999", 0);
+        sum("debt(3-2)*3", -12);
+        sum("-debt debt 0", 0);
+        sum("debt 1*debt 1", 16);
+        ask("1<2", 1);
+        ask("2<2", 0);
+        ask("2<=2", 1);
+        ask("3<=2", 0);
+        ask("3>2", 1);
+        ask("2>2", 0);
+        ask("2>=2", 1);
+        ask("1>=2", 0);
+        ask("2=2", 1);
+        ask("2=3", 0);
+        ask("2#3", 1);
+        ask("2#2", 0);
+        ask("1+1=4-2", 1);
+        ask("not 1<2", 0);
+        ask("not not 1<2", 1);
+        ask("not 1<2 or 1<2", 1);
+        ask("not 2<1 and 2<1", 0);
+        ask("1=1 or 1=1 and 1=2", 1);
+        ask("1=2 and 1=1 or 1=1", 1);
+        ask("1=2 and 1=1 or 1=2", 0);
+        ask("1=1 and 1=1 and 1=2", 0);
+        ask("1=2 or 1=2 or 1=1", 1);
+        ask("quarter=3 and weight=7 and due=20 and owed=0 and force=0 and day=0", 1);
+        ask("debt 1<0", 1);
+        ask("not 1=2 and 1=1", 1);
+        ask("1<2 and 1<=2 and 2>1 and 2>=1 and 1=1 and 1#2", 1);
+        ask("1<2 or 1<=2 or 2>1 or 2>=1 or 1=1 or 1#2", 1);
         OwedToWinds f = ruled(played("wind 0 weight 1 due 0;wind 0 weight 1 due 0;"), "blows 5;");
         f.day(1);
         f.by(NONE);
@@ -726,6 +657,7 @@ public final class PromisesTest {
         due("blows", f.ofWind(1, 6), 6);
         due("dues", f.ofWind(0, 8), 2);
         due("dues", f.ofWind(1, 8), 7);
+        OwedToWinds x = lawful();
         ruled(x, "takes purse-roof*force+quarter*10-weight+owed+due-day;catch roof*10+purse+force*3+quarter+weight+owed+due;");
         due("takes", x.takes(0, 0, 2), 4 - 4 + 30 - 7 + 20);
         due("takes", x.takes(1, 1, 9), 77 - 54 + 10 - 2 - 4 + 9);
@@ -1752,10 +1684,10 @@ public final class PromisesTest {
     }
 
     public static void main(String[] args) throws ReflectiveOperationException {
-        for (promise = 1; promise <= 48; promise++) {
+        for (int promise = 1; promise <= 48; promise++) {
+            of("promise " + promise);
             PromisesTest.class.getDeclaredMethod("p" + promise).invoke(null);
         }
-        System.out.println(wrong == 0 ? asked + " answers are as due" : wrong + " of " + asked + " answers are not as due");
-        if (wrong != 0) System.exit(1);
+        end();
     }
 }
