@@ -607,6 +607,42 @@ public final class AheadEdgesTest extends Checks {
         });
     }
 
+    private static void firstAndLast() {
+        edge("III: of six the last, none behind it", () -> {
+            OwedToWinds x = full();
+            due("owed", x.owed(1, 5), 50);
+            due("no seventh is owed", x.owed(1, 6), -1000);
+            due("purse, with what it catches", x.purse(1, 5), 503);
+            due("no seventh purse", x.purse(1, 6), NONE);
+            due("broke", x.broke(0), 0);
+            due("no seventh is broke", x.broke(6), NONE);
+            odds(x, 5, 0, 2, 7);
+            odds(x, 6, 0, NONE, NONE);
+            due("share of the last", x.share(5, 9, 32, 5, false), 4);
+            due("no seventh wind", x.share(6, 9, 32, 5, false), NONE);
+            due("no seventh village", x.share(5, 9, 64, 6, false), NONE);
+            x.way(4, 5, 7);
+            voyage(x, 5, 4, x.voyage(4, 5, false), 5);
+            voyage(x, 6, 5, -2, -2);
+            voyage(x, 5, 6, -2, -2);
+            voyage(x, 6, 6, -2, -2);
+        });
+        edge("III: of none told", () -> {
+            OwedToWinds x = new OwedToWinds();
+            due("foretold", x.foretold(1), 0);
+            due("purse", x.purse(1, 0), NONE);
+            due("owed", x.owed(1, 0), -1000);
+            due("arrears", x.arrears(), NONE);
+            due("broke", x.broke(0), NONE);
+            due("whose", x.whose(1), NONE);
+            odds(x, 0, 1, NONE, NONE);
+            least(x, 1, 0, 0, 0);
+            due("share", x.share(0, 1, 1, 0, false), NONE);
+            voyage(x, 0, 0, -2, -2);
+            alike("asked", x, new OwedToWinds());
+        });
+    }
+
     public static void main(String[] args) {
         foretold();
         arrears();
@@ -616,6 +652,7 @@ public final class AheadEdgesTest extends Checks {
         leastToPay();
         shares();
         voyages();
+        firstAndLast();
         end();
     }
 }

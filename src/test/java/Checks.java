@@ -15,12 +15,30 @@ abstract class Checks {
     private static int wrong = 0;
     private static int asked = 0;
     private static int edges = 0;
-    private static String now = "";
+    private static volatile String now = "";
     private static String busySeen = null;
+
+    /** A program that never answers must not keep the tests waiting. */
+    static void watch() {
+        Thread watcher = new Thread(() -> {
+            try {
+                Thread.sleep(300_000);
+            } catch (InterruptedException e) {
+                return;
+            }
+            System.out.println(now + ": no answer in five minutes");
+            Runtime.getRuntime().halt(1);
+        });
+        watcher.setDaemon(true);
+        watcher.start();
+    }
 
     // ---- answers -----------------------------------------------------------------------------------------
     /** What the answers from here on belong to. */
     static void of(String what) {
+        if (now.isEmpty()) {
+            watch();
+        }
         now = what;
     }
 
@@ -102,6 +120,16 @@ abstract class Checks {
     /** What a first text does, ruled by a second one. */
     static OwedToWinds under(String laws, String deeds) {
         return ruled(played(deeds), laws);
+    }
+
+    /** As many winds and villages as there may be. */
+    static OwedToWinds full() {
+        OwedToWinds x = new OwedToWinds();
+        for (int i = 0; i < 6; i++) {
+            x.wind(i % 4, 1 + i, 10 * i);
+            x.village(i, 100 * i);
+        }
+        return x;
     }
 
     /** Lets so many days pass, however many. */

@@ -251,6 +251,7 @@ public final class ModelTest {
     }
 
     public static void main(String[] args) {
+        Checks.watch();
         for (Method m : OwedToWinds.class.getDeclaredMethods()) OF_PROGRAM.putIfAbsent(m.getName(), m);
         for (Method m : Model.class.getDeclaredMethods()) {
             if (OF_PROGRAM.containsKey(m.getName()) && same(m, OF_PROGRAM.get(m.getName()))) OF_MODEL.put(m.getName(), m);

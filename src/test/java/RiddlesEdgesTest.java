@@ -604,6 +604,48 @@ public final class RiddlesEdgesTest extends Checks {
         });
     }
 
+    private static void firstAndLast() {
+        edge("IV: of six the last, none behind it", () -> {
+            OwedToWinds x = ruled(full(), "blows weight;takes weight+roof;");
+            due("took of the last", x.took(5, 11), 1);
+            due("no seventh", x.took(6, 11), -2);
+            due("the sixth wind", x.whoseWind(), 32);
+            due("its strengths", x.strengths(5), 1022);
+            due("no seventh", x.strengths(6), NONE);
+            due("vane", x.vane(), 0);
+            x.sail(6);
+            x.sail(6);
+            due("sails", x.sails(5, 0), 4);
+            due("no seventh", x.sails(6, 0), NONE);
+            due("sure", x.sure(5, 0, 0), NONE);
+            due("no seventh", x.sure(6, 0, 0), NONE);
+            due("strongest", x.strongest(), 5);
+            due("richest", x.richest(), 5);
+            x.day(30);
+            yes("the last is in the book", x.often(5) > 0);
+            due("no seventh", x.often(6), -2);
+        });
+        edge("IV: of none told", () -> {
+            OwedToWinds x = new OwedToWinds();
+            due("took", x.took(0, 0), -2);
+            due("whoseWind", x.whoseWind(), 0);
+            due("strengths", x.strengths(0), NONE);
+            due("vane", x.vane(), NONE);
+            due("sails", x.sails(0, 0), NONE);
+            due("sure", x.sure(0, 0, 0), NONE);
+            due("inKind", x.inKind(0, NONE), 0);
+            due("inKind", x.inKind(1, NONE), NONE);
+            due("inKind", x.inKind(0, 0), NONE);
+            due("calms", x.calms(1, false), 1);
+            due("strongest", x.strongest(), NONE);
+            due("richest", x.richest(), NONE);
+            due("often", x.often(NONE), 0);
+            due("often", x.often(0), -2);
+            due("worstDay", x.worstDay(), NONE);
+            alike("asked", x, new OwedToWinds());
+        });
+    }
+
     public static void main(String[] args) {
         took();
         vane();
@@ -614,6 +656,7 @@ public final class RiddlesEdgesTest extends Checks {
         strongest();
         richest();
         byTheBook();
+        firstAndLast();
         end();
     }
 }

@@ -4,16 +4,6 @@
  * last, the 30th and the 31st step and page, what is refused and that nothing is done then.
  */
 public final class WorldEdgesTest extends Checks {
-    /** As many winds and villages as there may be. */
-    private static OwedToWinds full() {
-        OwedToWinds x = new OwedToWinds();
-        for (int i = 0; i < 6; i++) {
-            x.wind(i % 4, 1 + i, 10 * i);
-            x.village(i, 100 * i);
-        }
-        return x;
-    }
-
     /** A wind that is owed 9998 on day 707, a day of dues. */
     private static OwedToWinds nearlyMostOwed() {
         OwedToWinds x = passed(played("wind 2 weight 1 due 99;"), 700);
@@ -600,10 +590,9 @@ public final class WorldEdgesTest extends Checks {
     /** Two winds that are owed so much, by 60 weeks' dues of which the rest is paid. */
     private static OwedToWinds owedBoth(int first, int second) {
         OwedToWinds x = passed(played("wind 0 weight 1 due 99;wind 0 weight 1 due 99;village 9 purse 9999;"), 414);
-        for (int i = 0; i < 2; i++) {
-            while (x.ofWind(i, 3) > (i == 0 ? first : second)) {
-                x.pay(0, i, Math.min(999, x.ofWind(i, 3) - (i == 0 ? first : second)));
-            }
+        for (int i = 0; i < 20; i++) {
+            int wind = i % 2;
+            x.pay(0, wind, Math.min(999, x.ofWind(wind, 3) - (wind == 0 ? first : second)));
         }
         due("owed", x.ofWind(0, 3), first);
         due("owed", x.ofWind(1, 3), second);
