@@ -1504,11 +1504,12 @@ public final class OwedToWinds {
         }
 
         private boolean isAnyOwed() {
-            boolean any = false;
             for (int wind = 0; wind < world.winds; wind++) {
-                any |= isOwed(wind);
+                if (isOwed(wind)) {
+                    return true;
+                }
             }
-            return any;
+            return false;
         }
 
         private boolean isOwed(int wind) {
